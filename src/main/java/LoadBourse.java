@@ -69,7 +69,7 @@ public final class LoadBourse {
     private final Towns towns;
     private final Table lorries;
     private final Table loads;
-    private final Drive drive;
+    private final Drive driving;
     private final Giving giving;
     private final Prices prices;
     private final Firms firms;
@@ -84,8 +84,8 @@ public final class LoadBourse {
         towns = new Towns(journal);
         lorries = new Table(journal, LORRY_COLUMNS, MOST_LORRIES);
         loads = new Table(journal, LOAD_COLUMNS, MOST_LOADS);
-        drive = new Drive(towns, lorries, loads);
-        giving = new Giving(journal, lorries, loads, drive);
+        driving = new Drive(towns, lorries, loads);
+        giving = new Giving(journal, lorries, loads, driving);
         prices = new Prices(journal);
         firms = new Firms(journal);
         reports = new Reports(journal, towns);
@@ -184,7 +184,7 @@ public final class LoadBourse {
         if (!loads.has(load) || !(lorry == NO_LORRY || lorries.has(lorry))) {
             return told(BEYOND);
         }
-        if (lorry != NO_LORRY && !drive.fits(lorry, load)) {
+        if (lorry != NO_LORRY && !driving.fits(lorry, load)) {
             return told(KIND);
         }
         return loads.set(load, LOAD_GIVEN, lorry);
@@ -194,7 +194,7 @@ public final class LoadBourse {
 
     public int why(int lorry, int one, int two) {
         int finding = findingOfRow(lorry, one, two);
-        return told(finding != NO_FINDING ? finding : drive.run(lorry, one, two));
+        return told(finding != NO_FINDING ? finding : driving.run(lorry, one, two));
     }
 
     public int drive(int lorry, int one, int two, int what) {
@@ -205,8 +205,8 @@ public final class LoadBourse {
         if (!within(what, 0, Drive.LAST_WHAT)) {
             return told(BEYOND);
         }
-        boolean right = drive.run(lorry, one, two) == Drive.RIGHT;
-        return told(right ? drive.tells(what) : NONE);
+        boolean right = driving.run(lorry, one, two) == Drive.RIGHT;
+        return told(right ? driving.tells(what) : NONE);
     }
 
     public int best() {
@@ -479,7 +479,7 @@ public final class LoadBourse {
         if (one == NO_LOAD ? two != NO_LOAD : one == two) {
             return BEYOND;
         }
-        return drive.fits(lorry, one) && drive.fits(lorry, two) ? NO_FINDING : KIND;
+        return driving.fits(lorry, one) && driving.fits(lorry, two) ? NO_FINDING : KIND;
     }
 
     private int givenTo(int lorry) {
@@ -869,8 +869,9 @@ public final class LoadBourse {
         /** The first row with which the lorry comes to that. */
         private final int[] choices = new int[MOST_LORRIES * SETS];
         private final int[] rowsGiven = new int[MOST_LORRIES];
-        /** The rows that one lorry may be given, in order. */
+        /** The rows that one lorry may be given, in order, with their loads as bits and what they are worth. */
         private final int[] rows = new int[MOST_ROWS];
+        private final int[] takes = new int[MOST_ROWS];
         private final int[] values = new int[MOST_ROWS];
         private int rowCount;
         private int free;
@@ -916,11 +917,15 @@ public final class LoadBourse {
                 }
             }
             int count = Math.min(lorries.count(), MOST_LORRIES);
-            Arrays.fill(most, count * SETS, (count + 1) * SETS, 0);
+            for (int set = 0; set < SETS; set++) {
+                most[count * SETS + set] = 0;
+            }
             for (int lorry = count - 1; lorry >= 0; lorry--) {
                 gatherRows(lorry);
+                // The lorries ahead take at most two loads each, and valueWithout() leaves out one more.
+                int mostGone = 2 * lorry + 1;
                 for (int set = 0; set <= free; set++) {
-                    if ((set & ~free) == 0) {
+                    if ((set & ~free) == 0 && Integer.bitCount(free & ~set) <= mostGone) {
                         choose(lorry, set);
                     }
                 }
@@ -959,6 +964,7 @@ public final class LoadBourse {
         private void addRow(int row, int value) {
             if (rowCount < MOST_ROWS) {
                 rows[rowCount] = row;
+                takes[rowCount] = loadsOf(row);
                 values[rowCount] = value;
                 rowCount++;
             }
@@ -969,9 +975,8 @@ public final class LoadBourse {
             int greatest = values[0] + most[behind + set];
             int choice = ROW_OF_NONE;
             for (int r = 1; r < rowCount; r++) {
-                int taken = loadsOf(rows[r]);
-                if ((taken & ~set) == 0) {
-                    int value = values[r] + most[behind + (set & ~taken)];
+                if ((takes[r] & ~set) == 0) {
+                    int value = values[r] + most[behind + (set & ~takes[r])];
                     if (value > greatest) {
                         greatest = value;
                         choice = rows[r];

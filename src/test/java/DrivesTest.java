@@ -248,6 +248,40 @@ public final class DrivesTest {
         gets("15 two that are worth more", z, 0, 1);
     }
 
+    /** Six loads there, one back and one there that pays as much: all rows are right and worth more than none. */
+    private static LoadBourse full(int lorries) {
+        LoadBourse x = new LoadBourse();
+        x.road(0, 1, 10);
+        for (int i = 0; i < lorries; i++) {
+            lorry(x, 0, 0);
+        }
+        for (int i = 0; i < 6; i++) {
+            load(x, 1, 100);
+        }
+        load(x, 10, 9000);
+        load(x, 1, 9000);
+        return x;
+    }
+
+    private static void promise15Full() {
+        LoadBourse x = full(1);
+        gets("15 the last row of all", x, 7, 6);
+        due("15 is worth", x.best(), 18000);
+        due("15 the other way round", x.drive(0, 6, 7, 4), 17980);
+        due("15 worth without its first load", x.worth(7), 9000 - 100);
+        LoadBourse y = full(6);
+        gets("15 six lorries", y, -1, -1, -1, -1, 0, 1, 2, 3, 4, 5, 7, 6);
+        // Each load there comes back empty, but for one.
+        due("15 are worth", y.best(), 600 + 18000 - 60);
+        due("15 empty", y.empty(false), 60);
+        due("15 worth of load 0", y.worth(0), 90);
+        y.give(0, 5);
+        gets("15 without load 0", y, -1, -1, -1, -1, 1, -1, 2, 3, 4, 5, 7, 6);
+        y.give(7, 5);
+        y.give(5, 5);
+        gets("15 five loads", y, -1, -1, -1, -1, -1, -1, 1, -1, 2, 3, 4, 6);
+    }
+
     private static void promise16Empty() {
         LoadBourse x = new LoadBourse();
         x.road(0, 1, 50);
@@ -298,6 +332,7 @@ public final class DrivesTest {
         promise14Best();
         promise15Gets();
         promise15Order();
+        promise15Full();
         promise16Empty();
         promise17Worth();
         CHECK.end();

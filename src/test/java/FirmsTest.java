@@ -82,6 +82,10 @@ public final class FirmsTest {
         x.contract(0, 8, 9);
         due("22 two firms", x.doubles(0), 2);
         due("22 not of the other one", x.doubles(1), 0);
+        LoadBourse y = withLoads(1);
+        y.contract(0, 0, 1);
+        y.contract(0, 0, 9);
+        due("22 firm 0, by its first contract, too", y.doubles(0), 1);
         due("22 no load", x.doubles(2), Check.BEYOND);
         due("22 load below", x.doubles(-1), Check.BEYOND);
     }
@@ -173,6 +177,11 @@ public final class FirmsTest {
         due("26 cut", x.trust(3, false), 16);
         due("26 cut, greatest", x.trust(3, true), 66);
         due("26 another firm", x.trust(4, true), 100);
+        for (int i = 0; i < 197; i++) {
+            x.trusts(7, true);
+        }
+        due("26 197 of 197", x.trust(7, false), 98);
+        due("26 197 of 197, greatest", x.trust(7, true), 100);
         due("26 below", x.trust(-1, true), Check.BEYOND);
         due("26 above", x.trust(10, false), Check.BEYOND);
     }

@@ -202,6 +202,8 @@ public final class TownsTest {
             due("8 is " + i, x.loadIs(1, 6 + i), windows[i]);
             due("8 the other load's " + i, x.loadIs(0, 6 + i), i % 2 * 4000);
         }
+        due("8 the first minute alone", x.window(1, true, 0, 0), 1);
+        due("8 the last minute alone", x.window(1, true, 4000, 4000), 1);
         due("8 all", x.window(1, true, 0, 4000), 1);
         due("8 from above to", x.window(1, true, 6, 5), Check.SIZE);
         due("8 from beyond", x.window(1, true, -1, 5), Check.BEYOND);

@@ -259,6 +259,41 @@ public final class WholeTest {
         due("38 a load as new", x.load(12, 0, 1, 1, 5) + x.loadIs(0, 9), 4000);
     }
 
+    /** What stands beside it stays as it is. */
+    private static void promise38OthersStay() {
+        LoadBourse x = new LoadBourse();
+        x.lorry(0, 0, 0, 0, 20, 20);
+        x.load(12, 0, 3, 4, 5);
+        x.load(34, 0, 6, 7, 8);
+        x.pay(0, 50);
+        x.window(1, false, 10, 20);
+        x.pay(1, 80);
+        x.give(0, 0);
+        due("38 give", x.undo(), 6);
+        due("38 pay of the second load", x.undo(), 5);
+        int[] second = {3, 4, 0, 6, 7, 8, 10, 20, 0, 4000, -1};
+        int[] first = {1, 2, 0, 3, 4, 50, 0, 4000, 0, 4000, -1};
+        for (int what = 0; what < first.length; what++) {
+            due("38 the first load's " + what, x.loadIs(0, what), first[what]);
+            due("38 the second load's " + what, x.loadIs(1, what), second[what]);
+        }
+        LoadBourse y = new LoadBourse();
+        y.trusts(1, true);
+        y.road(0, 1, 5);
+        y.owe(0, 1, 6);
+        y.trusts(1, false);
+        y.trusts(0, true);
+        y.undo();
+        due("38 trust of the next firm", y.trust(1, true), 80);
+        y.road(0, 2, 7);
+        y.owe(0, 2, 8);
+        y.undo();
+        y.undo();
+        due("38 road of the next town", y.far(0, 1), 5);
+        due("38 what the next firm is owed", y.net(1), 6);
+        due("38 no more is owed", y.net(0), -6);
+    }
+
     private static void promise38Sixteen() {
         LoadBourse x = new LoadBourse();
         for (int i = 1; i <= 20; i++) {
@@ -356,6 +391,7 @@ public final class WholeTest {
         promise36Put();
         promise37Copy();
         promise38EachAct();
+        promise38OthersStay();
         promise38Sixteen();
         promise39All();
         promise39EachFinding();
