@@ -120,7 +120,8 @@ final class Edge {
             if (ranges[i] != null) {
                 for (int v : new int[] {ranges[i][0] - 1, ranges[i][1] + 1}) {
                     int[] a = with(usual, i, v);
-                    refused(name + ": BEYOND first, argument " + i + " is " + v, stock, Check.BEYOND, x -> call.on(x, a));
+                    refused(name + ": BEYOND first, argument " + i + " is " + v, stock, Check.BEYOND,
+                        x -> call.on(x, a));
                 }
             }
         }

@@ -60,8 +60,10 @@ public final class EdgesOfDrivesTest {
 
     private static void promise13Ends() {
         EDGE.ends("13 lorry", Edge.SOME, new int[] {0, -1, -1, 0}, new int[][] {{0, 3}, null, null, null}, drive());
-        EDGE.ends("13 first load", Edge.SOME, new int[] {0, 0, -1, 0}, new int[][] {null, {-1, 5}, null, null}, drive());
-        EDGE.ends("13 second load", Edge.SOME, new int[] {0, 0, -1, 0}, new int[][] {null, null, {-1, 5}, null}, drive());
+        EDGE.ends("13 first load", Edge.SOME, new int[] {0, 0, -1, 0}, new int[][] {null, {-1, 5}, null, null},
+            drive());
+        EDGE.ends("13 second load", Edge.SOME, new int[] {0, 0, -1, 0}, new int[][] {null, null, {-1, 5}, null},
+            drive());
         EDGE.ends("13 what", Edge.SOME, new int[] {0, 0, 5, 0}, new int[][] {null, null, null, {0, 5}}, drive());
         EDGE.refused("13 they are one", Edge.SOME, Check.BEYOND, x -> x.drive(0, 5, 5, 0));
         EDGE.refused("13 none ahead of one", Edge.SOME, Check.BEYOND, x -> x.drive(0, -1, 5, 0));
@@ -131,8 +133,8 @@ public final class EdgesOfDrivesTest {
 
     /** What it drove ahead of a dock counts: 200 and 70 are 270. */
     private static void paragraph2RestsOverDocks() {
-        int[][] ways = {{200, 69, 0}, {200, 70, 0}, {200, 71, 1}, {270, 1, 1}, {270, 270, 1}, {269, 271, 1}, {1, 269, 0},
-            {1, 270, 1}};
+        int[][] ways = {{200, 69, 0}, {200, 70, 0}, {200, 71, 1}, {270, 1, 1}, {270, 270, 1}, {269, 271, 1},
+            {1, 269, 0}, {1, 270, 1}};
         for (int[] w : ways) {
             LoadBourse x = new LoadBourse();
             x.road(0, 1, w[0]);
@@ -433,6 +435,80 @@ public final class EdgesOfDrivesTest {
         due("16 they go nowhere", x.empty(true), 100);
     }
 
+    /** What does not fit is got by nobody, whichever load it is. */
+    private static void givingFits() {
+        int[][] misfits = {{0, 21, 1}, {0, 1, 21}, {1, 1, 1}, {2, 1, 1}};
+        for (int load = 0; load < 8; load++) {
+            for (int[] m : misfits) {
+                LoadBourse x = new LoadBourse();
+                x.road(0, 1, 10);
+                x.lorry(0, 0, 0, 40000, 20, 20);
+                for (int i = 0; i < 8; i++) {
+                    x.load(1, i == load ? m[0] : 2, i == load ? m[1] : 1, i == load ? m[2] : 1, 9999);
+                }
+                gets("15 does not fit, load " + load, x, -1, -1);
+                due("14 does not fit, load " + load, x.best(), 0);
+                due("17 does not fit, load " + load, x.worth(load), 0);
+                x.sheet(0, 16, 1);
+                x.put(0, 0, 100 * (load + 1));
+                due("34 does not fit, load " + load, x.proves(0), 0);
+            }
+        }
+    }
+
+    /** The giving is that of now: behind each act, and behind one that took the place of an undone one. */
+    private static void givingAfterEachAct() {
+        LoadBourse x = twoTowns(1, 0, 60);
+        x.lorry(0, 1, 0, 40000, 40, 40);
+        due("14 the second lorry goes home empty", x.best(), 10 - 50);
+        x.undo();
+        due("14 it is no more", x.best(), 10);
+        x.load(10, 0, 1, 1, 70);
+        due("14 a load back", x.best(), 130);
+        gets("15 there and back", x, 0, 1);
+        x.undo();
+        x.load(10, 0, 1, 1, 1);
+        due("14 another one that took its place", x.best(), 61);
+        x.undo();
+        x.pay(0, 50);
+        due("14 and now less", x.best(), 0);
+        gets("15 so nothing is got", x, -1, -1);
+        x.undo();
+        x.road(0, 1, 59);
+        due("14 a longer road", x.best(), 1);
+    }
+
+    /** Loads to the lorries' home: each one's first load spares 50 EMPTY minutes, and a second one costs as many. */
+    private static void givingToManyLorries() {
+        int[] pays = {900, 800, 700, 600, 500, 400, 300, 200};
+        int[] sums = {0, 1700, 3000, 3900, 4400, 4400, 4400};
+        int[] emptyTimes = {0, 1, 2, 3, 4, 3, 2};
+        for (int lorries = 0; lorries <= 6; lorries++) {
+            LoadBourse x = twoTowns(lorries, 1, pays);
+            due("14 of " + lorries + " lorries", x.best(), sums[lorries] - 50 * emptyTimes[lorries]);
+            due("16 of " + lorries + " lorries", x.empty(false), 50 * emptyTimes[lorries]);
+            due("16 without, of " + lorries + " lorries", x.empty(true), 50 * lorries);
+            for (int load = 0; load < 8; load++) {
+                boolean isGot = load < 2 * lorries;
+                int instead = lorries < 4 ? pays[Math.min(2 * lorries, 7)] : 50;
+                due("17 load " + load + " of " + lorries + " lorries", x.worth(load), isGot ? pays[load] - instead : 0);
+            }
+        }
+    }
+
+    /** As above, but the last of four lorries is home in time with one load only. */
+    private static void givingToALorryWithoutTime() {
+        int[] pays = {900, 800, 700, 600, 500, 400, 300, 200};
+        LoadBourse x = twoTowns(3, 1, pays);
+        x.lorry(0, 0, 0, 1101, 40, 40);
+        due("12 one load in time", x.why(3, 0, -1), 0);
+        due("12 two loads too late", x.why(3, 0, 1), 4);
+        due("14 seven loads", x.best(), 4200 - 150);
+        for (int load = 0; load < 8; load++) {
+            due("17 of seven, load " + load, x.worth(load), pays[load] - 200);
+        }
+    }
+
     public static void main(String[] args) {
         promise12Ends();
         promise12Kind();
@@ -452,6 +528,10 @@ public final class EdgesOfDrivesTest {
         givingOrder();
         givingByHand();
         givingGoesNowhere();
+        givingFits();
+        givingAfterEachAct();
+        givingToManyLorries();
+        givingToALorryWithoutTime();
         CHECK.end();
     }
 }

@@ -65,6 +65,12 @@ public final class EdgesOfFirmsTest {
                 EDGE.refused("19 what " + w + " of lane " + lane, Edge.FRESH, Check.NONE, x -> x.span(lane, 365, w));
             }
         }
+        for (int day : new int[] {0, 1, 29, 30, 365}) {
+            for (int lane : LANES) {
+                EDGE.asked("19 none of lane " + lane + " on day " + day, Edge.FRESH, 0, x -> x.span(lane, day, 3));
+            }
+            EDGE.asked("19 none of lane 0 among others, on day " + day, Edge.SOME, 0, x -> x.span(0, day, 3));
+        }
         // 500 on day 0, 300 on day 29, 400 on day 30, 100 on day 59.
         int[][] days = {{0, 1, 500, 500, 500}, {28, 1, 500, 500, 500}, {29, 2, 300, 300, 500}, {30, 2, 300, 300, 400},
             {58, 2, 300, 300, 400}, {59, 2, 100, 100, 400}, {60, 1, 100, 100, 100}, {88, 1, 100, 100, 100}};
@@ -152,14 +158,22 @@ public final class EdgesOfFirmsTest {
             EDGE.ends("21 chain of a full one", Edge.FULL, new int[] {0, 0}, new int[][] {{0, 7}, FIRM}, chain);
             EDGE.refused("21 neither", Edge.SOME, Check.BEYOND, x -> x.chain(6, 10, end));
         }
-        int[][] chains = {{0, 0, 4, 4}, {0, 1, 4, 3}, {0, 2, 3, 2}, {0, 3, 0, 3}, {0, 4, 0, 4}, {0, 9, 0, 9}, {5, 9, 1, 8},
-            {5, 8, 0, 8}, {5, 0, 0, 0}, {1, 0, 0, 0}};
+        int[][] chains = {{0, 0, 4, 4}, {0, 1, 4, 3}, {0, 2, 3, 2}, {0, 3, 0, 3}, {0, 4, 0, 4}, {0, 9, 0, 9},
+            {5, 9, 1, 8}, {5, 8, 0, 8}, {5, 0, 0, 0}, {1, 0, 0, 0}};
         for (int[] c : chains) {
             EDGE.asked("21 how many " + Arrays.toString(c), Edge.SOME, c[2], x -> x.chain(c[0], c[1], false));
             EDGE.asked("21 carries " + Arrays.toString(c), Edge.SOME, c[3], x -> x.chain(c[0], c[1], true));
         }
         LoadBourse x = new LoadBourse();
         x.load(1, 0, 1, 1, 0);
+        for (int firm = 0; firm < 10; firm++) {
+            due("21 no contract at all, " + firm, x.chain(0, firm, false), 0);
+            due("21 it stays with " + firm, x.chain(0, firm, true), firm);
+        }
+        x.contract(0, 5, 0);
+        due("21 one contract", x.chain(0, 5, false), 1);
+        due("21 it ends with firm 0", x.chain(0, 5, true), 0);
+        x.undo();
         for (int i = 0; i < 20; i++) {
             x.contract(0, i % 10, (i + 1) % 10);
         }
@@ -171,7 +185,8 @@ public final class EdgesOfFirmsTest {
 
     private static void promise22Ends() {
         EDGE.ends("22 doubles", Edge.SOME, new int[] {0}, new int[][] {{0, 5}}, (x, a) -> x.doubles(a[0]));
-        EDGE.ends("22 doubles of a full one", Edge.FULL, new int[] {0}, new int[][] {{0, 7}}, (x, a) -> x.doubles(a[0]));
+        EDGE.ends("22 doubles of a full one", Edge.FULL, new int[] {0}, new int[][] {{0, 7}},
+            (x, a) -> x.doubles(a[0]));
         int[] doubles = {2, 0, 0, 0, 0, 0};
         for (int load = 0; load < 6; load++) {
             int l = load;
@@ -192,8 +207,8 @@ public final class EdgesOfFirmsTest {
     private static void promise23Ends() {
         int[][] ranges = {{0, 3}, {0, 7}, {0, 4000}};
         EDGE.ends("23 report", Edge.SOME, new int[] {1, 4, 500}, ranges, (x, a) -> x.report(a[0], a[1], a[2]));
-        EDGE.beyondFirst("23 full", Edge.FULL, new int[] {1, 4, 500}, new int[][] {{0, 5}, {0, 7}, {0, 4000}}, Check.FULL,
-            (x, a) -> x.report(a[0], a[1], a[2]));
+        EDGE.beyondFirst("23 full", Edge.FULL, new int[] {1, 4, 500}, new int[][] {{0, 5}, {0, 7}, {0, 4000}},
+            Check.FULL, (x, a) -> x.report(a[0], a[1], a[2]));
         // Report 4 is of lorry 3 in town 2 at minute 5, and nobody comes to town 7.
         EDGE.taken("23 the ends", Edge.SOME, 5, x -> x.report(3, 7, 4000), 405, x -> x.cannot(3, true));
         EDGE.taken("23 the first of all", Edge.SOME, 5, x -> x.report(3, 0, 0), 405, x -> x.cannot(3, true));
@@ -257,6 +272,16 @@ public final class EdgesOfFirmsTest {
         due("4 the first by both numbers", x.cannot(0, true), 3);
         x.road(6, 7, 400);
         due("4 there is one now", x.cannot(0, false), 0);
+        LoadBourse order = new LoadBourse();
+        order.lorry(0, 0, 0, 0, 1, 1);
+        order.road(0, 1, 60);
+        int[][] reports = {{0, 0}, {1, 100}, {0, 101}, {0, 500}, {1, 30}};
+        for (int[] r : reports) {
+            order.report(0, r[0], r[1]);
+        }
+        // Of reports 1 and 2, and of 0 and 4.
+        due("4 two pairs", order.cannot(0, false), 2);
+        due("4 by the lesser number first", order.cannot(0, true), 4);
         LoadBourse last = new LoadBourse();
         last.lorry(0, 0, 0, 0, 1, 1);
         for (int i = 0; i < 29; i++) {

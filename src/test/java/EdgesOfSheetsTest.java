@@ -135,14 +135,16 @@ public final class EdgesOfSheetsTest {
         for (int s = 0; s < 4; s++) {
             int sheet = s;
             for (int bits : new int[] {8, 16, 32}) {
-                EDGE.written("35 none", Edge.SOME, 0, x -> x.sheet(sheet, bits, 0), Check.BEYOND, x -> x.put(sheet, 0, 1));
+                EDGE.written("35 none", Edge.SOME, 0, x -> x.sheet(sheet, bits, 0), Check.BEYOND,
+                    x -> x.put(sheet, 0, 1));
                 EDGE.written("35 one", Edge.SOME, 1, x -> x.sheet(sheet, bits, 1), 0, x -> x.put(sheet, 0, 1));
                 EDGE.written("35 20", Edge.SOME, 20, x -> x.sheet(sheet, bits, 20), 0, x -> x.put(sheet, 19, 1));
                 EDGE.written("35 not 21", Edge.SOME, 20, x -> x.sheet(sheet, bits, 20), Check.BEYOND,
                     x -> x.put(sheet, 20, 1));
             }
             for (int n : new int[] {0, 1, 20}) {
-                EDGE.written("35 missing", Edge.SOME, 0, x -> x.sheet(sheet, 0, n), Check.MISSING, x -> x.put(sheet, 0, 1));
+                EDGE.written("35 missing", Edge.SOME, 0, x -> x.sheet(sheet, 0, n), Check.MISSING,
+                    x -> x.put(sheet, 0, 1));
             }
         }
     }
@@ -194,8 +196,10 @@ public final class EdgesOfSheetsTest {
     /** Of what is put the lowest 8, 16 or 32 bits are kept; 10 to 49 are signs. */
     private static void promise36Bits() {
         int[][] puts = {{8, 49, 39}, {8, 256 + 49, 39}, {8, 49 - 256, 39}, {8, 65536 + 49, 39}, {8, 128 + 49, -1},
-            {8, Integer.MIN_VALUE + 49, 39}, {16, 49, 39}, {16, 256 + 49, -1}, {16, 32768 + 49, -1}, {16, 65536 + 49, 39},
-            {16, 49 - 65536, 39}, {16, Integer.MIN_VALUE + 49, 39}, {32, 49, 39}, {32, 256 + 49, -1}, {32, 65536 + 49, -1},
+            {8, Integer.MIN_VALUE + 49, 39}, {16, 49, 39}, {16, 256 + 49, -1}, {16, 32768 + 49, -1},
+            {16, 65536 + 49, 39},
+            {16, 49 - 65536, 39}, {16, Integer.MIN_VALUE + 49, 39}, {32, 49, 39}, {32, 256 + 49, -1},
+            {32, 65536 + 49, -1},
             {32, Integer.MIN_VALUE + 49, -1}, {8, Integer.MAX_VALUE, -1}, {16, Integer.MAX_VALUE, -1},
             {32, Integer.MAX_VALUE, -1}, {32, Integer.MIN_VALUE, -1}};
         for (int[] p : puts) {
@@ -257,7 +261,8 @@ public final class EdgesOfSheetsTest {
                 {1, 1, Integer.MAX_VALUE}, {Integer.MAX_VALUE, Integer.MAX_VALUE, Integer.MAX_VALUE},
                 {Integer.MAX_VALUE, 0, Integer.MIN_VALUE}, {1, 0, Integer.MIN_VALUE}};
             for (int[] c : beyond) {
-                EDGE.refused("37 beyond " + Arrays.toString(c), stock, Check.BEYOND, x -> x.copy(0, c[0], 1, c[1], c[2]));
+                EDGE.refused("37 beyond " + Arrays.toString(c), stock, Check.BEYOND,
+                    x -> x.copy(0, c[0], 1, c[1], c[2]));
             }
             int[][] taken = {{0, 0, 3}, {1, 0, 3}, {2, 0, 3}, {3, 0, 2}, {4, 0, 1}, {5, 0, 0}, {0, 1, 2}, {0, 2, 1},
                 {0, 3, 0}, {0, 0, 0}, {4, 2, 1}};

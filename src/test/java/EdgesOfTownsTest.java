@@ -132,6 +132,22 @@ public final class EdgesOfTownsTest {
         due("3 one less", x.far(2, 3), 349);
     }
 
+    /** How far it is is asked behind the first act, and behind an act that took the place of one that was undone. */
+    private static void promise3AfterEachAct() {
+        LoadBourse x = new LoadBourse();
+        x.road(0, 1, 5);
+        due("3 behind the first act", x.far(0, 1), 5);
+        x.undo();
+        x.road(0, 1, 7);
+        due("3 behind another act", x.far(0, 1), 7);
+        x.undo();
+        x.road(2, 3, 8);
+        due("3 behind a third one", x.far(0, 1), Check.NONE);
+        due("3 that is there", x.far(3, 2), 8);
+        x.undo();
+        due("3 and undone", x.far(3, 2), Check.NONE);
+    }
+
     private static Edge.Calls lorry() {
         return (x, a) -> x.lorry(a[0], a[1], a[2], a[3], a[4], a[5]);
     }
@@ -215,7 +231,8 @@ public final class EdgesOfTownsTest {
     }
 
     private static void promise6Ends() {
-        EDGE.ends("6 lorryIs", Edge.SOME, new int[] {1, 1}, new int[][] {{0, 3}, {0, 7}}, (x, a) -> x.lorryIs(a[0], a[1]));
+        EDGE.ends("6 lorryIs", Edge.SOME, new int[] {1, 1}, new int[][] {{0, 3}, {0, 7}},
+            (x, a) -> x.lorryIs(a[0], a[1]));
         EDGE.ends("6 lorryIs of a full one", Edge.FULL, new int[] {1, 1}, new int[][] {{0, 5}, {0, 7}},
             (x, a) -> x.lorryIs(a[0], a[1]));
         int[] second = {1, 2, 60, 2, 900, 30, 10, 0};
@@ -270,7 +287,8 @@ public final class EdgesOfTownsTest {
             EDGE.refused("7 SIZE ahead of FULL, " + t, Edge.FULL, Check.SIZE, x -> x.load(11 * t, 0, 1, 1, 0));
         }
         EDGE.beyondFirst("7 size", Edge.SOME, new int[] {33, 0, 5, 5, 50}, LOAD_RANGES, Check.SIZE, load());
-        EDGE.beyondFirst("7 size of a full one", Edge.FULL, new int[] {33, 0, 5, 5, 50}, LOAD_RANGES, Check.SIZE, load());
+        EDGE.beyondFirst("7 size of a full one", Edge.FULL, new int[] {33, 0, 5, 5, 50}, LOAD_RANGES, Check.SIZE,
+            load());
         EDGE.beyondFirst("7 full", Edge.FULL, new int[] {34, 0, 5, 5, 50}, LOAD_RANGES, Check.FULL, load());
         for (int way : new int[] {-1, 8, 80, 88}) {
             EDGE.refused("7 BEYOND first, way " + way, Edge.FULL, Check.BEYOND, x -> x.load(way, 0, 1, 1, 0));
@@ -296,15 +314,16 @@ public final class EdgesOfTownsTest {
             EDGE.ends(name + " of a full one", Edge.FULL, new int[] {3, 0, 4000}, new int[][] {{0, 7}, MINUTE, MINUTE},
                 window);
             for (int minute : new int[] {0, 1, 2000, 3999, 4000}) {
-                EDGE.taken(name + " one minute alone", Edge.SOME, 1, x -> x.window(5, bring, minute, minute), 2 * minute,
-                    x -> x.loadIs(5, first) + x.loadIs(5, first + 1));
+                EDGE.taken(name + " one minute alone", Edge.SOME, 1, x -> x.window(5, bring, minute, minute),
+                    2 * minute, x -> x.loadIs(5, first) + x.loadIs(5, first + 1));
             }
             EDGE.taken(name + " the whole", Edge.SOME, 1, x -> x.window(0, bring, 0, 4000), 4000,
                 x -> x.loadIs(0, first + 1) - x.loadIs(0, first));
             EDGE.taken(name + " leaves the other one", Edge.SOME, 1, x -> x.window(4, bring, 1, 3999), 4000,
                 x -> x.loadIs(4, 14 - first) + x.loadIs(4, 15 - first));
             for (int to : new int[] {0, 1, 3998, 3999}) {
-                EDGE.refused(name + " from is above to by one", Edge.SOME, Check.SIZE, x -> x.window(0, bring, to + 1, to));
+                EDGE.refused(name + " from is above to by one", Edge.SOME, Check.SIZE,
+                    x -> x.window(0, bring, to + 1, to));
             }
             EDGE.refused(name + " from is far above to", Edge.SOME, Check.SIZE, x -> x.window(0, bring, 4000, 0));
             EDGE.beyondFirst(name + " BEYOND ahead of SIZE", Edge.SOME, new int[] {2, 4000, 0},
@@ -318,7 +337,8 @@ public final class EdgesOfTownsTest {
     }
 
     private static void promise9Ends() {
-        EDGE.ends("9 loadIs", Edge.SOME, new int[] {1, 1}, new int[][] {{0, 5}, {0, 10}}, (x, a) -> x.loadIs(a[0], a[1]));
+        EDGE.ends("9 loadIs", Edge.SOME, new int[] {1, 1}, new int[][] {{0, 5}, {0, 10}},
+            (x, a) -> x.loadIs(a[0], a[1]));
         EDGE.ends("9 loadIs of a full one", Edge.FULL, new int[] {1, 1}, new int[][] {{0, 7}, {0, 10}},
             (x, a) -> x.loadIs(a[0], a[1]));
         int[] first = {0, 1, 0, 10, 10, 510, 100, 130, 50, 3000, -1};
@@ -392,6 +412,7 @@ public final class EdgesOfTownsTest {
         promise2EachPair();
         promise3Ends();
         promise3SevenRoads();
+        promise3AfterEachAct();
         promise4Ends();
         promise4Full();
         paragraph1Rooms();

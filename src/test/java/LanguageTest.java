@@ -33,6 +33,7 @@ public final class LanguageTest {
     private static final int DEEPEST = 8;
     private static final int MOST_OBJECTS = 60;
     private static final int MOST_ELEMENTS = 6000;
+    private static final int MOST_BYTES = 600;
 
     private static final String[] FACE = {"all(int)", "as(int,int)", "best()", "cannot(int,boolean)",
         "chain(int,int,boolean)", "claim(int,int,int)", "clear()", "clearing(int)", "contract(int,int,int)",
@@ -231,6 +232,29 @@ public final class LanguageTest {
         return sum;
     }
 
+    /** What one call makes, times 512, stays far below what a run may make. */
+    private static void theRoomOfCalls() {
+        com.sun.management.ThreadMXBean threads =
+            (com.sun.management.ThreadMXBean) java.lang.management.ManagementFactory.getThreadMXBean();
+        LoadBourse x = Stocks.full();
+        Edge.Call[] calls = {y -> y.road(0, 1, 100), y -> y.window(0, true, 0, 4000), y -> y.pay(0, 5),
+            y -> y.give(0, -1), y -> y.trusts(0, true), y -> y.owe(0, 1, 1), LoadBourse::clear, y -> y.text(0), LoadBourse::undo,
+            y -> y.undo() + y.report(0, 0, 0), y -> y.undo() + y.contract(0, 0, 1), y -> y.undo() + y.paid(0, 0, 0),
+            y -> y.pay(0, 5) + y.best(), y -> y.pay(0, 5) + y.empty(false), y -> y.worth(0), y -> y.gets(0, 0),
+            y -> y.road(0, 1, 100) + y.far(0, 7), y -> y.why(0, 0, 3), y -> y.drive(0, 0, 3, 0), y -> y.span(1, 1, 1),
+            y -> y.chain(0, 0, true), y -> y.doubles(0), y -> y.cannot(0, true), y -> y.clearing(0),
+            y -> y.claim(0, 0, 0), y -> y.proves(0), y -> y.sheet(3, 8, 20), y -> y.copy(1, 0, 2, 0, 20), y -> y.put(1, 0, 1)};
+        for (int i = 0; i < calls.length; i++) {
+            calls[i].on(x);
+            long before = threads.getThreadAllocatedBytes(Thread.currentThread().getId());
+            for (int n = 0; n < 512; n++) {
+                calls[i].on(x);
+            }
+            long bytes = threads.getThreadAllocatedBytes(Thread.currentThread().getId()) - before;
+            CHECK.holds("rule 12: call " + i + " makes " + bytes / 512 + " bytes", bytes / 512 <= MOST_BYTES);
+        }
+    }
+
     public static void main(String[] args) throws IOException, URISyntaxException, IllegalAccessException {
         String source = Files.readString(SOURCE);
         theFace();
@@ -239,6 +263,7 @@ public final class LanguageTest {
         theMethods(source);
         theDepth();
         theRoom();
+        theRoomOfCalls();
         CHECK.end();
     }
 }

@@ -12,7 +12,7 @@ final class Questions {
     }
 
     private static final int[] DAYS = {0, 28, 29, 30, 58, 59, 100, 365};
-    private static final int[] LANES = {1, 12, 77};
+    private static final int[] LANES = {0, 1, 12, 77};
 
     private Questions() {
     }

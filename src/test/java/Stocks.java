@@ -1,6 +1,6 @@
 /** Bourses in states that the tests of edges begin with. Each is made by far fewer than 512 calls. */
 final class Stocks {
-    /** The sheets of some(): 0 is a text, 1 tells a row for each lorry, 2 has as many numbers as may be, 3 is MISSING. */
+    /** The sheets of some(): 0 is a text, 1 tells a row for each lorry, 2 has all numbers it can, 3 is MISSING. */
     private static final int[] TEXT = {1, 2, 51};
 
     private Stocks() {
