@@ -246,11 +246,11 @@ public final class LanguageTest {
             y -> y.claim(0, 0, 0), y -> y.proves(0), y -> y.sheet(3, 8, 20), y -> y.copy(1, 0, 2, 0, 20), y -> y.put(1, 0, 1)};
         for (int i = 0; i < calls.length; i++) {
             calls[i].on(x);
-            long before = threads.getThreadAllocatedBytes(Thread.currentThread().getId());
+            long before = threads.getCurrentThreadAllocatedBytes();
             for (int n = 0; n < 512; n++) {
                 calls[i].on(x);
             }
-            long bytes = threads.getThreadAllocatedBytes(Thread.currentThread().getId()) - before;
+            long bytes = threads.getCurrentThreadAllocatedBytes() - before;
             CHECK.holds("rule 12: call " + i + " makes " + bytes / 512 + " bytes", bytes / 512 <= MOST_BYTES);
         }
     }
