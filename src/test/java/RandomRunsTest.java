@@ -27,7 +27,9 @@ public final class RandomRunsTest {
         {"contract", "contract", "contract", "chain", "chain", "doubles", "trusts", "trust", "terms", "all"},
         {"report", "report", "report", "cannot", "cannot", "road", "far", "all", "undo"},
         {"owe", "owe", "owe", "owe", "owe", "net", "clearing", "clearing", "clearing", "all"},
-        {"sheet", "put", "put", "put", "copy", "copy", "text", "wrong", "terms", "proof"}};
+        {"sheet", "put", "put", "put", "copy", "copy", "text", "wrong", "terms", "proof"},
+        {"judge", "judge", "trust", "terms"},
+        {"lend", "lend", "net", "clearing"}};
 
     private final Random random;
     private final LoadBourse real = new LoadBourse();
@@ -175,9 +177,26 @@ public final class RandomRunsTest {
             case "copy" -> call(name, small(0, 3), small(0, 6), small(0, 3), small(0, 6), small(0, 6));
             case "empty" -> call(name, coin());
             case "all" -> call(name, small(0, 5));
+            case "judge" -> judge();
+            case "lend" -> lend();
             case "proof" -> proof();
             case "terms" -> terms();
             default -> call(name);
+        }
+    }
+
+    /** Many of one firm, so that it comes to what is FULL. */
+    private void judge() {
+        for (int i = below(160); i >= 0; i--) {
+            call("trusts", any(0), below(3) > 0);
+        }
+    }
+
+    /** Much between the same two firms, and one way, so that it comes to what is FULL. */
+    private void lend() {
+        int sign = coin() ? 1 : -1;
+        for (int i = below(160); i >= 0; i--) {
+            call("owe", any(0), any(1), any(sign * (99 - below(9) / 8)));
         }
     }
 
